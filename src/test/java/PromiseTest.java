@@ -136,6 +136,10 @@ public final class PromiseTest {
         faultOf("2;01o;p90", 9);
         faultOf("2;01o;p9:", 8);
         faultOf("2;01o;p:0", 7);
+        faultOf("2;01o;p/0", 7);
+        faultOf("2;/1", 2);
+        faultOf("2;0/", 3);
+        faultOf("2;01o;p9/", 8);
         faultOf("2;01o;p92", 8);
         faultOf("2;01o;p90;", 9);
         faultOf("2;01o;p90,r00;", 14);
@@ -380,6 +384,8 @@ public final class PromiseTest {
         due(14, "owe(0, 9), the same", x.owe(0, 9), 9);
         due(14, "debt(0, 5)", x.debt(0, 5), 0);
         due(14, "person(1, 1)", x.person(1, 1), 9);
+        due(14, "owe(0, 1)", x.owe(0, 1), 9);
+        due(14, "debt(0, 3)", x.debt(0, 3), 1);
         due(14, "owe(0, 0), no house", new DebtRooms().owe(0, 0), UNKNOWN);
     }
 
@@ -406,6 +412,13 @@ public final class PromiseTest {
         wayRow(y, 0, 4, 1, 4);
         wayRow(y, 1, 4, 3, 0, 3, 5);
         wayRow(y, 2, 4, 1, 4);
+        // A round of five rooms: the shorter side of it, from either end.
+        DebtRooms round = built("5;01o,12o,23o,34o,40o;p00,p02,p03;0101");
+        wayRow(round, 0, 2, 2, 0, 1);
+        wayRow(round, 0, 3, 2, 4, 3);
+        wayRow(round, 1, 0, 2, 1, 0);
+        wayRow(round, 2, 0, 2, 3, 4);
+        wayRow(round, 2, 1, 2, 2, 1);
         // Alike doors: the first one; a locked first one is passed over.
         DebtRooms z = built("4;01b,01o,01o,12o,12o;p00,p00,h03;0101");
         wayRow(z, 0, 2, 2, 1, 3);
