@@ -601,6 +601,26 @@ public final class EdgeTest {
         DebtRooms y = built("4;01o,12o,23o,03o;p00,p00;0101");
         wayIs(y, 0, 3, 1, 3);
         wayIs(y, 0, 2, 2, 0, 1);
+        // In whatever order three doors are told that join three rooms: one door is enough.
+        String[] orders = {"01o,12o,20o", "01o,20o,12o", "12o,01o,20o", "12o,20o,01o", "20o,01o,12o", "20o,12o,01o"};
+        for (String order : orders) {
+            DebtRooms three = built("3;" + order + ";p00,p01,p02;0101");
+            for (int person = 0; person < 3; person++) {
+                wayIs(three, person, person, 0);
+                wayIs(three, person, (person + 1) % 3, 1, doorOf(three, person, (person + 1) % 3));
+                wayIs(three, person, (person + 2) % 3, 1, doorOf(three, person, (person + 2) % 3));
+            }
+        }
+    }
+
+    private static int doorOf(DebtRooms x, int one, int other) {
+        for (int door = 0; door < 3; door++) {
+            int ends = 1 << x.door(door, 0) | 1 << x.door(door, 1);
+            if (ends == (1 << one | 1 << other)) {
+                return door;
+            }
+        }
+        return NONE;
     }
 
     private static void nightIs(DebtRooms x, int person, int doors, int much, int... which) {
@@ -696,6 +716,12 @@ public final class EdgeTest {
         cancelIs(built("3;01o;p00,p00;0109,1009"), 2, 0);
         cancelIs(built("2;01o;p00,p00,p00,p00;0109,1209,2309,3009"), 0, 36, 9, 9, 9, 9);
         cancelIs(built("2;01o;p00,p00,p00,p00;0109,1209,2309,3001"), 0, 4, 1, 1, 1, 1);
+        // Only if one of them became more by it would these be a ring: 0 is the least.
+        String[] noRings = {"0104,1204,0204", "0104,0204,1204", "1204,0104,0204", "1204,0204,0104", "0204,0104,1204",
+            "0204,1204,0104", "2104,1004,2004", "2104,2004,1004", "1004,2104,2004", "1004,2004,2104"};
+        for (String debts : noRings) {
+            cancelIs(built("2;01o;p00,p00,p00;" + debts), 0, 0, 0, 0, 0);
+        }
         DebtRooms x = built("2;01o;p90,p90;0104,1006");
         cancelIs(x, 0, 8, 4, 4);
         x.pay(0);

@@ -20,7 +20,7 @@ public final class RefusalTest {
     private static final String LARGE = "6;01o,12a,23b,34o,45o,50o;p00,b11,h22,d33;0101,1202,2303,3004";
     private static final String TOGETHER = "2;01a,01b;p50,r90,b00,h30;0105,1209,2001,3013";
     private static final int[] MANY = {LEAST, -101, -2, -1, 0, 1, 2, 3, 4, 5, 6, 7, 8, 9, 10, 11, 12, 13, 14, 15,
-        59, 60, 61, 126, 127, 998, 999, 1000, MOST};
+        59, 60, 61, 126, 127, 256, 308, 998, 999, 1000, MOST};
     private static final int[] FEW = {LEAST, -1, 0, 1, 2, 3, 4, 5, 6, 9, 10, 13, 14, 15, 60, 61, MOST};
     private static final int[] FEWEST = {LEAST, -1, 0, 1, 2, 3, 4, 5, MOST};
 
@@ -69,7 +69,7 @@ public final class RefusalTest {
         private final String first, second;
         private int rooms, doors, people, debts;
         private int letters, seen;
-        private boolean isKept, pageIsHouse;
+        private boolean isKept, pageIsHouse, isBusy;
         private int[] mayGo = {0, 0, 0, 0};
         private int[] mayHave = {0, 0};
         private int mayBePaid;
@@ -110,6 +110,11 @@ public final class RefusalTest {
             }
             if (isKept) {
                 x.image();
+            }
+            if (isBusy) {
+                x.pay(0);
+                x.give(0, 2);
+                x.go(2, 0);
             }
             for (int person = 0; person < people; person++) {
                 for (int has = x.person(person, 1); has >= 0 && has < purse[person]; has = x.person(person, 1)) {
@@ -162,6 +167,14 @@ public final class RefusalTest {
         kept.seen = 1;
         kept.isKept = true;
         scenes.add(kept);
+        Scene busy = new Scene("a debt is paid, a key given, one has gone", TOGETHER, "7").has(2, 2, 4, 4);
+        // The blind one is alone in room 1 with key 0 and has nothing; the rich one could pay.
+        busy.purses(0, 99, 0, 9).may(new int[] {0, 0, 3, 0}, new int[] {0, 9}, 2);
+        busy.letters = 1;
+        busy.seen = 4;
+        busy.isKept = true;
+        busy.isBusy = true;
+        scenes.add(busy);
         return scenes;
     }
 
