@@ -836,6 +836,7 @@ public final class EdgeTest {
 
     private static void whatIsSeen() {
         sixAtMost();
+        forgotten();
         pursesByWhatItCosts();
         ofOneAlone();
         pressOne();
@@ -859,6 +860,29 @@ public final class EdgeTest {
         due("forget()", x.forget(), 6);
         due("see(0, false), the first again", x.see(0, false), 1);
         due("PURSES by this alone", x.person(0, 7), 0x1f);
+    }
+
+    private static void forgotten() {
+        of("Nothing is SEEN any more: how much was");
+        DebtRooms none = new DebtRooms();
+        due("forget(), no HOUSE", none.forget(), 0);
+        due("see(0, true), no HOUSE", none.see(0, true), UNKNOWN);
+        due("forget(), a refused one is not SEEN", none.forget(), 0);
+        DebtRooms x = built("2;01o;p00,p00;0105,1003");
+        due("forget(), nothing is SEEN", x.forget(), 0);
+        for (int many = 1; many <= 6; many++) {
+            for (int at = 0; at < many; at++) {
+                x.see(at % 2, at % 2 == 0);
+            }
+            due("forget() of " + many, x.forget(), many);
+            due("count(10)", x.count(10), 0);
+            due("person(0, 7)", x.person(0, 7), 1023);
+            due("person(1, 7)", x.person(1, 7), 1023);
+            due("forget() again", x.forget(), 0);
+        }
+        x.see(0, false);
+        due("what was SEEN ahead does not come back", x.person(0, 7), 0x1f);
+        due("of the other one neither", x.person(1, 7), 1023);
     }
 
     private static void pursesByWhatItCosts() {
