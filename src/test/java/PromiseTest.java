@@ -285,6 +285,7 @@ public final class PromiseTest {
         due(10, "go(least, most)", x.go(LEAST, MOST), UNKNOWN);
         DebtRooms y = built("2;01o,01b;d00,p00;0101");
         due(10, "go(0, 0), a duke", y.go(0, 0), STATE);
+        // More than the document's 512 calls, whose answers are free: held to all the same.
         for (int many = 1; many <= 999; many++) {
             y.go(1, 0);
         }
@@ -774,8 +775,9 @@ public final class PromiseTest {
         x.pay(2);
         x.see(1, true);
         write(x, "4;~");
-        due(26, "digest() with a page", x.digest(), toldBy(x, "4;~"));
-        due(26, "digest() changes nothing", x.digest(), toldBy(x, "4;~"));
+        long once = x.digest();
+        due(26, "digest() changes nothing", x.digest(), once);
+        due(26, "digest() with a page", once, toldBy(x, "4;~"));
     }
 
     private static long toldBy(DebtRooms x, String page) {
