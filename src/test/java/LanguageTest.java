@@ -36,7 +36,7 @@ public final class LanguageTest {
     public static void main(String[] args) throws Exception {
         face();
         classesInside();
-        source(Files.readString(Path.of(System.getProperty("source", "src/main/java/DebtRooms.java"))));
+        source(Files.readString(Path.of(System.getProperty("project", "."), "src/main/java/DebtRooms.java")));
         System.out.println(wrong == 0 ? "the rules hold" : wrong + " rules do not hold");
         if (wrong != 0) {
             System.exit(1);

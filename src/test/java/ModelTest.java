@@ -11,7 +11,7 @@ import java.util.regex.Pattern;
  */
 public final class ModelTest {
     private static final int NONE = -1, UNKNOWN = -101, OUTSIDE = -102, STATE = -103, FULL = -104;
-    private static final int RUNS = 1500;
+    private static final int RUNS = 800;
     private static final int CALLS = 512;
 
     public static void main(String[] args) {
@@ -19,22 +19,43 @@ public final class ModelTest {
         for (int run = 0; run < RUNS && wrong < 5; run++) {
             wrong += runOne(run) ? 0 : 1;
         }
-        System.out.println(RUNS + " runs of " + CALLS + " calls, " + wrong + " wrong");
+        System.out.println(RUNS + " runs of two objects with " + CALLS + " calls each, " + wrong + " wrong");
         if (wrong != 0) {
             System.exit(1);
         }
     }
 
+    /** Two objects by turns: what is done to one is nothing to the other. */
     private static boolean runOne(int run) {
         Random random = new Random(run);
-        DebtRooms x = new DebtRooms();
-        Model model = new Model();
-        List<String> calls = new ArrayList<>();
-        String toWrite = "";
-        for (int at = 0; at < CALLS; at++) {
+        Side one = new Side(run + " (one)");
+        Side other = new Side(run + " (other)");
+        for (int at = 0; at < 2 * CALLS; at++) {
+            Side side = one.made == CALLS || other.made < CALLS && random.nextBoolean() ? other : one;
+            if (!side.callOnce(random)) {
+                return false;
+            }
+        }
+        return true;
+    }
+
+    /** An object, what the document says of it, and the calls that it had. */
+    private static final class Side {
+        private final String name;
+        private final DebtRooms x = new DebtRooms();
+        private final Model model = new Model();
+        private final List<String> calls = new ArrayList<>();
+        private String toWrite = "";
+        private int made;
+
+        private Side(String name) {
+            this.name = name;
+        }
+
+        private boolean callOnce(Random random) {
             String call;
             int[] a;
-            if (toWrite.isEmpty() && (at == 3 || random.nextInt(150) == 0)) {
+            if (toWrite.isEmpty() && (made == 3 || random.nextInt(150) == 0)) {
                 toWrite = randomText(random);
             }
             if (!toWrite.isEmpty()) {
@@ -48,15 +69,15 @@ public final class ModelTest {
                 }
                 a = randomArguments(random, call, model);
             }
+            made++;
             calls.add(call + java.util.Arrays.toString(a));
             long got = answer(x, call, a);
             long want = model.answer(call, a);
             if (got != want) {
-                System.out.println("run " + run + ": " + calls + " answered " + got + ", due is " + want);
-                return false;
+                System.out.println("run " + name + ": " + calls + " answered " + got + ", due is " + want);
             }
+            return got == want;
         }
-        return true;
     }
 
     private static String randomText(Random random) {

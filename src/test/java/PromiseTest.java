@@ -82,6 +82,31 @@ public final class PromiseTest {
         due(1, "debt(0, 0)", x.debt(0, 0), UNKNOWN);
         due(1, "cancel(0, 0)", x.cancel(0, 0), UNKNOWN);
         due(1, "house()", x.house(), STATE);
+        eachHasItsOwn();
+    }
+
+    /** What is done to one object is not done to another, whichever was made first. */
+    private static void eachHasItsOwn() {
+        String text = "2;01o;d90,p00;0105";
+        DebtRooms one = built(text);
+        DebtRooms other = built(text);
+        long before = other.digest();
+        one.letter('2');
+        one.go(1, 0);
+        one.earn(1, 3);
+        one.pay(0);
+        one.see(0, true);
+        due(1, "image() of one", one.image(), 1);
+        due(1, "digest() of the other", other.digest(), before);
+        due(1, "restore() of the other", other.restore(), STATE);
+        due(1, "image() of the other", other.image(), 0);
+        one.go(1, 0);
+        due(1, "restore() of one", one.restore(), 1);
+        due(1, "his purse in one", one.person(1, 1), 8);
+        due(1, "restore() of the other", other.restore(), 0);
+        due(1, "digest() of the other", other.digest(), before);
+        due(1, "a third has no house", new DebtRooms().count(2), 0);
+        due(1, "a third has read none", new DebtRooms().count(12), 0);
     }
 
     private static void letter() {
