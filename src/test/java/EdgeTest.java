@@ -857,6 +857,7 @@ public final class EdgeTest {
         due("see(0, false), the 7th", x.see(0, false), FULL);
         due("count(10)", x.count(10), 6);
         due("the 7th does not count", x.person(0, 7), 0x3e0);
+        due("PRESS all the same", x.person(0, 8), 0);
         due("forget()", x.forget(), 6);
         due("see(0, false), the first again", x.see(0, false), 1);
         due("PURSES by this alone", x.person(0, 7), 0x1f);
